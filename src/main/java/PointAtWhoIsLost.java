@@ -856,8 +856,8 @@ public final class PointAtWhoIsLost {
         if (d == 0 && e == 0) {
             return HERE;
         }
-        int rows = Math.abs(d);
-        int columns = Math.abs(e);
+        int rows = d < 0 ? -d : d;
+        int columns = e < 0 ? -e : e;
         if (2 * columns < rows) {
             return d < 0 ? 0 : 4;
         }

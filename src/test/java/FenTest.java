@@ -169,6 +169,11 @@ public final class FenTest {
         fault("sid 5", 0);
         fault("sides 5", 0);
         fault("Side 5", 0);
+        fault("xide 5", 0);
+        fault("sidez 5", 0);
+        fault("zside 5", 0);
+        fault("bog 1 z", 6);
+        fault("bog 1; zz", 7);
         fault("side", 4);
         fault("side  ", 6);
         fault("side;", 4);

@@ -75,6 +75,10 @@ public final class GroupsTest {
         x.set(5, 0, 0);
         x.set(5, 1, -1L << 32);
         Due.refused(x, "no ARM, a long", -5, () -> x.where(5, 1, -1));
+        Due.ints(x, 6, 0, 0, 0, 9, 0, 0);
+        Due.refused(x, "ARM 9 of the second pair", -5, () -> x.where(6, 2, -1));
+        Due.ints(x, 6, 0, 0, 1, 0);
+        Due.refused(x, "no such POST in the second pair", -5, () -> x.where(6, 2, -1));
         x.set(4, 0, 1);
         Due.refused(x, "no such POST", -5, () -> x.where(4, 2, -1));
         x.set(4, 0, -1);
@@ -119,6 +123,13 @@ public final class GroupsTest {
         Due.accepted(x, "FALSE, the more CELLS", 1, () -> x.of(1, 2, 1));
         Due.ints(x, 2, 1, 8, 0, 3);
         Due.accepted(x, "FALSE, the more CELLS", 0, () -> x.of(2, 2, 1));
+        Due.ints(x, 4, 0, 2, 1, 8);
+        // without the first pair 0 alone fits, without the second 23 and 24
+        Due.accepted(x, "FALSE, two CELLS against 0", 1, () -> x.of(4, 2, 1));
+        Due.ints(x, 4, 0, 8, 1, 8, 1, 8);
+        Due.accepted(x, "FALSE, 0 alone", 0, () -> x.of(4, 3, 1));
+        Due.ints(x, 4, 1, 8, 1, 8, 0, 8);
+        Due.accepted(x, "FALSE, 0 alone", 2, () -> x.of(4, 3, 1));
         Due.ints(x, 3, 0, -1);
         Due.accepted(x, "FALSE, a single pair", 0, () -> x.of(3, 1, 1));
     }
@@ -216,6 +227,25 @@ public final class GroupsTest {
         }
         // of 21, 22 and 23: 0 sees 4, 3 and 3, 1 sees 4, 3 and 3; 2 sees 5, 4 and 3, and is BOG
         Due.due("more(), BOG", z.more(), 2);
+        // 21 is told apart already: one that tells 22 from 23 does, though others see more by themselves
+        z.post(2, 0, 21);
+        z.bestPair();
+        Due.due("more(), with what there is", z.more(), 2);
+        z.post(0, 0, 2);
+        Due.due("more(), all are apart", z.more(), 0);
+        PointAtWhoIsLost row = Due.of("bog 3;bog 4");
+        for (int cell = 10; cell < 45; cell++) {
+            if (cell % 10 < 5) {
+                row.bog(cell, true);
+            }
+        }
+        Due.due("more() of 0, 1 and 2", row.more(), 1);
+        row.post(2, 0, 0);
+        row.fewest(0);
+        Due.due("more() of 0, 1 and 2, with 0 apart", row.more(), 1);
+        row.post(2, 0, 2);
+        row.fewest(0);
+        Due.due("more() of 0, 1 and 2, all apart", row.more(), 0);
     }
 
     private static void alike() {

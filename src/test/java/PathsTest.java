@@ -173,5 +173,15 @@ public final class PathsTest {
         Due.accepted(x, "meet(), one shut in", -1, () -> x.meet());
         PointAtWhoIsLost y = Due.of("walker 11 0;walker 0 9");
         Due.due("meet(), two beside", y.meet(), 1);
+        PointAtWhoIsLost z = Due.of("walker 44 0;walker 0 9");
+        Due.due("meet(), far away", z.meet(), 4);
+        z.goes(0, 1);
+        z.goes(0, 1);
+        z.goes(0, 1);
+        z.goes(0, 1);
+        z.goes(0, 3);
+        z.goes(0, 3);
+        z.goes(0, 3);
+        Due.due("meet(), nearer than they were", z.meet(), 0);
     }
 }

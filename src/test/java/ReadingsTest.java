@@ -132,6 +132,10 @@ public final class ReadingsTest {
         arms(x, "one too far for LAZY", 7, 7, -1, 0, -1, 7);
         x.sure(3, 0);
         arms(x, "the second is nearer", -1, 2, -1, 3, -1, 7);
+        PointAtWhoIsLost left = Due.of("post 5 0 10;post 5 0 20;post 5 0 44;walker 12 0;walker 31 0");
+        Due.due("TORN, 2 down, 3 right", left.postOf(0, 3), 3);
+        Due.due("TORN, 0 down, 3 right", left.postOf(1, 3), 2);
+        Due.due("TORN, 4 up, 5 left", left.postOf(2, 3), 7);
     }
 
     private static void arms(PointAtWhoIsLost x, String when, int... want) {

@@ -43,6 +43,9 @@ public final class ShelvesTest {
         Due.due("element(7, 39) behind refusals", x.element(7, 39), 1);
         Due.due("row(7, 3, 40) anew", x.row(7, 3, 40), 1);
         Due.due("element(7, 39) anew", x.element(7, 39), 0);
+        x.set(7, 0, 5);
+        x.row(7, 3, 40);
+        Due.due("element(7, 0) anew", x.element(7, 0), 0);
         x.post(0, 0, 0);
         x.show(1, 0);
         Due.due("row(1, 1, 2) over a POST", x.row(1, 1, 2), 1);

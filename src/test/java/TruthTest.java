@@ -212,9 +212,11 @@ public final class TruthTest {
         y.image();
         y.post(0, 0, 0);
         y.show(7, 0);
+        y.show(0, 0);
         y.row(6, 4, 0);
         y.back();
         Due.due("no POSTS: holds(7)", y.holds(7), -1);
+        Due.due("no POSTS: holds(0)", y.holds(0), -1);
         Due.due("no POSTS: holds(6)", y.holds(6), 4);
     }
 
@@ -229,6 +231,10 @@ public final class TruthTest {
             int w = what;
             Due.accepted(x, "status(" + w + ")", want[w], () -> x.status(w));
         }
+        x.bog(0, true);
+        Due.due("0 is not counted, where a WALKER is", x.status(5), 2);
+        PointAtWhoIsLost y = Due.of("side 7;home 1;bog 0;bog 66");
+        Due.due("the first CELL and the last", y.status(5), 2);
         int[] others = {-1, 9, 10, 11, 17, 18, Integer.MAX_VALUE, Integer.MIN_VALUE};
         for (int what : others) {
             Due.accepted(x, "status(" + what + ")", -1, () -> x.status(what));
