@@ -14,6 +14,14 @@ final class Due {
         }
     }
 
+    static void same(String what, String got, String want) {
+        calls++;
+        if (!got.equals(want)) {
+            wrong++;
+            System.out.println(what + " is\n " + got + "\ndue is\n " + want);
+        }
+    }
+
     /** Due is a refusal, counted once under its own number and under no other. */
     interface Call {
         long answer();

@@ -180,6 +180,11 @@ public final class ShelvesTest {
         x.walker(2, 0);
         int[] own = {-1, 0, 0, 1, 4, 0};
         int[][] under = {{0}, {0, 1}, {0, 2}, {0, 1, 3}, {0, 2, 4}, {0, 5}};
+        saysOfEach(x, own, under);
+        sayRefusals();
+    }
+
+    private static void saysOfEach(PointAtWhoIsLost x, int[] own, int[][] under) {
         for (int post = 0; post < 6; post++) {
             for (int kind = 0; kind < 6; kind++) {
                 int s = post;
@@ -189,12 +194,17 @@ public final class ShelvesTest {
                     is |= k == kind;
                 }
                 if (!is) {
-                    Due.refused(x, "says(" + s + ", " + as + ")", -3, () -> x.says(s, as));
+                    Due.due("says(" + s + ", " + as + ")", x.says(s, as), -3);
                 } else if (kind != 0) {
-                    Due.accepted(x, "says(" + s + ", " + as + ")", own[post], () -> x.says(s, as));
+                    Due.due("says(" + s + ", " + as + ")", x.says(s, as), own[post]);
                 }
             }
         }
+        Due.due("OTHER", x.status(13), 36 - 13);
+    }
+
+    private static void sayRefusals() {
+        PointAtWhoIsLost x = new PointAtWhoIsLost();
         x.row(6, 0, 1);
         Due.refused(x, "says of no SHELF", -2, () -> x.says(8, 0));
         Due.refused(x, "says of no SHELF", -2, () -> x.says(-1, 0));

@@ -9,21 +9,21 @@ public final class WalksTest {
     }
 
     private static void judge() {
+        walk(-1, 21, 22, 23);
+        walk(-1);
+        walk(0, 11);
+        walk(0, 12);
+        walk(0, 22);
+        walk(0, 31);
+        walk(1, 21, 21);
+        walk(2, 21, 22, 12);
+        walk(2, 10, 0, -1);
+        walk(2, 10, 0, -10);
+        walk(4, 21, 22, 23, 24, 25);
+        walk(3, 21, 31, 41, 51);
+        walk(1, 21, 99, 22);
+        walk(-1, 21, 11, 21);
         PointAtWhoIsLost x = Due.of("bog 12;walker 11 4;walker 44 9");
-        walk(x, -1, 21, 22, 23);
-        walk(x, -1);
-        walk(x, 0, 11);
-        walk(x, 0, 12);
-        walk(x, 0, 22);
-        walk(x, 0, 31);
-        walk(x, 1, 21, 21);
-        walk(x, 2, 21, 22, 12);
-        walk(x, 2, 10, 0, -1);
-        walk(x, 2, 10, 0, -10);
-        walk(x, 4, 21, 22, 23, 24, 25);
-        walk(x, 3, 21, 31, 41, 51);
-        walk(x, 1, 21, 99, 22);
-        walk(x, -1, 21, 11, 21);
         x.row(1, 3, 1);
         x.set(1, 0, (1L << 32) + 21);
         Due.accepted(x, "a long that is no CELL", 0, () -> x.judge(1, 1, 0));
@@ -40,7 +40,8 @@ public final class WalksTest {
         Due.accepted(x, "none of 40 steps", -1, () -> x.judge(3, 0, 0));
     }
 
-    private static void walk(PointAtWhoIsLost x, int want, long... cells) {
+    private static void walk(int want, long... cells) {
+        PointAtWhoIsLost x = Due.of("bog 12;walker 11 4;walker 44 9");
         Due.ints(x, 0, cells);
         Due.accepted(x, "judge of " + java.util.Arrays.toString(cells), want, () -> x.judge(0, cells.length, 0));
         for (int n = 0; n < cells.length; n++) {
