@@ -266,6 +266,15 @@ public final class EdgesOfGroupsTest {
         PointAtWhoIsLost y = Due.of("post 2 1 22;post 2 0 2");
         Due.ints(y, 1, 0, -1);
         Due.accepted(y, "one of 20 told by the second", 1, () -> y.of(1, 1, 0));
+        // the first makes 6 groups, one of 20 CELLS; the second 4, the greatest of 12
+        PointAtWhoIsLost z = Due.of("post 2 1 22;post 0 0 0");
+        z.row(0, 2, 0);
+        Due.accepted(z, "the worst case counts, not how many groups", 1, () -> z.of(0, 0, 0));
+        z.row(0, 2, 2);
+        z.set(0, 0, 1);
+        z.set(0, 1, 3);
+        // of the 12, the first tells 12, 21, 22, 23 and 32 from 7 others; the second none
+        Due.accepted(z, "only the CELLS that fit count", 0, () -> z.of(0, 1, 0));
     }
 
     private static void falseOnlyIfNoneFits() {

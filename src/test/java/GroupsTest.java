@@ -91,7 +91,7 @@ public final class GroupsTest {
         x.row(0, 2, 40);
         Due.accepted(x, "NEXT, no POSTS", -1, () -> x.of(0, 0, 0));
         Due.fen(x, "post 2 0 22;post 0 0 0;post 0 0 22;post 5 0 22");
-        // by post 1 at most 10 of 25 CELLS are left, by 2 and 3 at most 5
+        // by post 1 at most 12 of 25 CELLS are left, by 2 and 3 at most 5
         Due.accepted(x, "NEXT, of all", 2, () -> x.of(0, 0, 0));
         x.set(0, 0, 0);
         x.set(0, 1, 8);
