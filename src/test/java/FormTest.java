@@ -6,7 +6,9 @@ import java.lang.reflect.Modifier;
 import java.nio.file.Files;
 import java.nio.file.Path;
 import java.util.Arrays;
+import java.util.Map;
 import java.util.Set;
+import java.util.TreeMap;
 import java.util.TreeSet;
 import java.util.regex.Matcher;
 import java.util.regex.Pattern;
@@ -30,6 +32,11 @@ public final class FormTest {
         "\\bpackage\\b", "\\bstatic\\s*\\{", "\\bprotected\\b", "\\binstanceof\\b", "\\bvar\\b", "Exact\\b",
         "\\bSystem\\.(?!arraycopy)", "\\bThread\\b", "\\bRandom\\b", "\\bhashCode\\b", "\\btoString\\b", "\\.equals\\b"};
 
+    private static final Set<String> LIBRARY = Set.of("Arrays.fill", "System.arraycopy", "Integer.bitCount", "Math.max",
+        "Math.min", "Math.abs");
+    private static final Set<String> KEYWORDS = Set.of("if", "for", "while", "switch", "return");
+    private static final int DEEPEST = 8;
+
     public static void main(String[] args) throws IOException {
         face();
         String text = Files.readString(Path.of("src/main/java/PointAtWhoIsLost.java"));
@@ -42,6 +49,8 @@ public final class FormTest {
         Due.due("classes, twelve at most", found(code, "\\b(class|interface|enum|record)\\s") <= 12 ? 1 : 0, 1);
         nested();
         lengths(text);
+        library(code);
+        calls(code);
         Due.end();
     }
 
@@ -110,6 +119,57 @@ public final class FormTest {
                 since = 0;
             }
         }
+    }
+
+    /** Rules 4, 5, 6 and 12: what of the library is used, that no call makes an object, that casts are of numbers alone. */
+    private static void library(String code) {
+        Matcher used = Pattern.compile("\\b([A-Z]\\w*[a-z]\\w*)\\.(\\w+)").matcher(code.replaceAll("import [^;]*;", ""));
+        while (used.find()) {
+            Due.due("of the library: " + used.group(), LIBRARY.contains(used.group()) ? 1 : 0, 1);
+        }
+        for (String line : code.split("\n")) {
+            boolean isField = line.matches(" {4}( {4})?(private )?(static )?final .* = .*;");
+            Due.due("makes an object in a call: " + line, found(line, "\\bnew\\b") > 0 && !isField ? 1 : 0, 0);
+        }
+        Due.due("casts of other things than numbers", found(code, "\\([A-Z]\\w*(\\[\\])*\\)\\s*[\\w(]"), 0);
+        Due.due("static fields that aren't final", found(code, "(?m)^ +(private )?static (?!final)[\\w\\[\\]]+ \\w+( =|;)"), 0);
+        Due.due("whole numbers and truth alone", found(code, "\\b(double|float|Object|List|ArrayList)\\b"), 0);
+    }
+
+    /** Rules 8 and 11: no method calls itself, not by others either, and calls go at most eight deep. */
+    private static void calls(String code) {
+        Map<String, Set<String>> called = new TreeMap<>();
+        Matcher method = Pattern.compile("(?m)^ {4}( {4})?([a-z]+ )*[\\w\\[\\]]+ (\\w+)\\([^)]*\\) \\{").matcher(code);
+        while (method.find()) {
+            Set<String> names = called.computeIfAbsent(method.group(3), key -> new TreeSet<>());
+            Matcher call = Pattern.compile("\\b(\\w+)\\(").matcher(body(code, method.end()));
+            while (call.find()) {
+                names.add(call.group(1));
+            }
+        }
+        Due.due("methods are found", called.size() > FACE.length ? 1 : 0, 1);
+        for (String name : called.keySet()) {
+            Due.due("calls from " + name + " go eight deep at most", depth(called, name, 0) <= DEEPEST ? 1 : 0, 1);
+        }
+    }
+
+    private static String body(String code, int from) {
+        int end = from;
+        for (int open = 1; open > 0; end++) {
+            open += code.charAt(end) == '{' ? 1 : code.charAt(end) == '}' ? -1 : 0;
+        }
+        return code.substring(from, end);
+    }
+
+    /** How deep calls from a method go, itself too; more than there may be, if they come back to it. */
+    private static int depth(Map<String, Set<String>> called, String name, int open) {
+        int most = 0;
+        if (called.containsKey(name) && open <= DEEPEST) {
+            for (String next : called.get(name)) {
+                most = Math.max(most, KEYWORDS.contains(next) ? 0 : depth(called, next, open + 1));
+            }
+        }
+        return most + 1;
     }
 
     private static int found(String text, String pattern) {
